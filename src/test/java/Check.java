@@ -6,6 +6,14 @@ final class Check {
 
     private int wrong;
     private int checked;
+    private int sentences;
+    private String sentence = "";
+
+    /** What is checked from here on is due by this sentence of the document. */
+    void sentence(String text) {
+        sentences++;
+        sentence = "\"" + text + "\": ";
+    }
 
     void same(String what, long got, long due) {
         checked++;
@@ -34,12 +42,13 @@ final class Check {
     void report(String text) {
         wrong++;
         if (wrong <= 40) {
-            System.out.println(text);
+            System.out.println(sentence + text);
         }
     }
 
     void end(String name) {
-        System.out.println(name + ": " + checked + " checked, " + wrong + " wrong");
+        String told = sentences == 0 ? "" : sentences + " sentences, ";
+        System.out.println(name + ": " + told + checked + " checked, " + wrong + " wrong");
         if (wrong != 0 || checked == 0) {
             System.exit(1);
         }

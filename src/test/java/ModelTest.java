@@ -42,17 +42,28 @@ public final class ModelTest {
         wholeTree();
     }
 
+    /** By new objects with the same encodings, as many as it needs: an object is good for 512 calls. */
     private void wholeTree() {
-        for (int k = 0; k <= model.nodes.size(); k++) {
-            int n = k;
-            for (int what = 0; what <= 5; what++) {
-                int w = what;
-                both("node(" + n + ", " + w + ")", () -> real.node(n, w), () -> model.node(n, w));
+        for (int first = 0; first <= model.nodes.size(); first += 40) {
+            real = new DecodeTests(model.bits);
+            real.kind(model.treeKind);
+            for (Model.Encoding e : model.encodings) {
+                real.encoding(e.mask(), e.value(), e.length(), e.flag());
             }
-            for (int i = -1; i <= 4; i++) {
-                int p = i;
-                both("listed(" + n + ", " + p + ")", () -> real.listed(n, p), () -> model.listed(n, p));
+            for (int k = first; k < first + 40 && k <= model.nodes.size(); k++) {
+                wholeNode(k);
             }
+        }
+    }
+
+    private void wholeNode(int k) {
+        for (int what = 0; what <= 5; what++) {
+            int w = what;
+            both("node(" + k + ", " + w + ")", () -> real.node(k, w), () -> model.node(k, w));
+        }
+        for (int i = -1; i <= 4; i++) {
+            int p = i;
+            both("listed(" + k + ", " + p + ")", () -> real.listed(k, p), () -> model.listed(k, p));
         }
     }
 

@@ -430,7 +430,7 @@ public final class PromiseTest {
         }
         int fed = 0;
         int next = 0;
-        for (int round = 0; round < 150; round++) {
+        for (int round = 0; round < 80; round++) {
             if (x.count(6) < 64) {
                 x.feed(fed++ & 255);
             }
