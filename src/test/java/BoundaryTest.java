@@ -43,7 +43,7 @@ public final class BoundaryTest {
     }
 
     private static void leavesNoTrace(Consumer<DecodeTests> calls) {
-        CHECK.sentence("(what is refused, or only looks, changes nothing)");
+        CHECK.also("what is refused, or only looks, changes nothing");
         new Twins(CHECK, 3, BoundaryTest::history, calls).stayAlike();
         new Twins(CHECK, 3, BoundaryTest::fullHistory, calls).stayAlike();
         new Twins(CHECK, 3, x -> x.kind(0), calls).stayAlike();
@@ -596,14 +596,14 @@ public final class BoundaryTest {
             throwing("too large", ARGUMENT, () -> y.feed(8));
             throwing("below 0", ARGUMENT, () -> y.feed(-1));
         });
-        CHECK.sentence("(what is refused, or only looks, changes nothing)");
+        CHECK.also("what is refused, or only looks, changes nothing");
         new Twins(CHECK, 3, BoundaryTest::fullHistory,
             y -> throwing("a 65th", UNSUPPORTED, () -> y.feed(3))).stayAlike();
     }
 
     /** Full three times over, with one and two and three words taken at once where the ring ends. */
     private static void feedInARing() {
-        CHECK.sentence("(a full stream keeps its order)");
+        CHECK.also("a full stream keeps its order");
         for (int length = 1; length <= 3; length++) {
             DecodeTests x = new DecodeTests(3);
             for (int i = 0; i < 8; i++) {
@@ -636,7 +636,7 @@ public final class BoundaryTest {
             throwing("flags", ARGUMENT, () -> y.take(-1));
             throwing("flags", ARGUMENT, () -> y.take(MIN));
         });
-        CHECK.sentence("(what is refused, or only looks, changes nothing)");
+        CHECK.also("what is refused, or only looks, changes nothing");
         new Twins(CHECK, 3, BoundaryTest::encodingsOfSmall,
             y -> throwing("no word waits", STATE, () -> y.take(0))).stayAlike();
     }
@@ -752,7 +752,7 @@ public final class BoundaryTest {
         same("all words, twice", crossing(new int[][] {{0, 0}, {0, 0}}), false);
         same("the first has all of the second", crossing(new int[][] {{0, 0}, {15, 15}}), false);
         same("the second has all of the first", crossing(new int[][] {{15, 15}, {7, 7}}), false);
-        CHECK.sentence("Whether there are encodings (any two of 14)");
+        CHECK.also("any two of 14 encodings may cross");
         for (int a = 0; a < 14; a++) {
             for (int b = a + 1; b < 14; b++) {
                 int[][] pairs = new int[14][];

@@ -9,10 +9,15 @@ final class Check {
     private int sentences;
     private String sentence = "";
 
-    /** What is checked from here on is due by this sentence of the document. */
+    /** What is checked from here on is due by this sentence of the document, or part of one. */
     void sentence(String text) {
         sentences++;
         sentence = "\"" + text + "\": ";
+    }
+
+    /** What is checked from here on is due by what the document says as a whole. */
+    void also(String text) {
+        sentence = text + ": ";
     }
 
     void same(String what, long got, long due) {
@@ -47,7 +52,7 @@ final class Check {
     }
 
     void end(String name) {
-        String told = sentences == 0 ? "" : sentences + " sentences, ";
+        String told = sentences == 0 ? "" : sentences + " sentences or parts, ";
         System.out.println(name + ": " + told + checked + " checked, " + wrong + " wrong");
         if (wrong != 0 || checked == 0) {
             System.exit(1);
