@@ -127,7 +127,7 @@ public final class DecodeTests {
             throw new IllegalArgumentException("kind or what");
         }
         tables.refresh(encodings);
-        return what == 0 ? tables.deepest(kind, tables.allWords(), 0) : tables.total(kind, tables.allWords(), 0);
+        return what == 0 ? tables.deepest(kind) : tables.total(kind);
     }
 
     public int feed(int word) throws IllegalArgumentException, UnsupportedOperationException {
@@ -216,7 +216,7 @@ public final class DecodeTests {
     private Tree grownTree() {
         if (tree.size() == 0) {
             tables.refresh(encodings);
-            tree.grow(tables, treeKind, tables.allWords(), 0);
+            tree.grow(tables, treeKind);
         }
         return tree;
     }
@@ -466,24 +466,32 @@ public final class DecodeTests {
             return bits - 1 - depth;
         }
 
-        int deepest(int kind, int group, int depth) {
-            int bit = choice(kind, group, depth);
+        int deepest(int kind) {
+            return deepestBelow(this, kind, allWords(), 0);
+        }
+
+        private static int deepestBelow(Tables tables, int kind, int group, int depth) {
+            int bit = tables.choice(kind, group, depth);
             if (bit == NONE) {
                 return 0;
             }
-            int zero = deepest(kind, side(group, bit, 0), depth + 1);
-            int one = deepest(kind, side(group, bit, 1), depth + 1);
+            int zero = deepestBelow(tables, kind, side(group, bit, 0), depth + 1);
+            int one = deepestBelow(tables, kind, side(group, bit, 1), depth + 1);
             return 1 + Math.max(zero, one);
         }
 
-        int total(int kind, int group, int depth) {
-            int bit = choice(kind, group, depth);
+        int total(int kind) {
+            return totalBelow(this, kind, allWords(), 0);
+        }
+
+        private static int totalBelow(Tables tables, int kind, int group, int depth) {
+            int bit = tables.choice(kind, group, depth);
             if (bit == NONE) {
                 return 0;
             }
-            int zero = total(kind, side(group, bit, 0), depth + 1);
-            int one = total(kind, side(group, bit, 1), depth + 1);
-            return (1 << (bits - depth)) + zero + one;
+            int zero = totalBelow(tables, kind, side(group, bit, 0), depth + 1);
+            int one = totalBelow(tables, kind, side(group, bit, 1), depth + 1);
+            return (1 << (tables.bits - depth)) + zero + one;
         }
     }
 
@@ -513,22 +521,37 @@ public final class DecodeTests {
             leaves = 0;
         }
 
-        int grow(Tables tables, int kind, int group, int depth) {
-            int k = size;
-            size++;
+        void grow(Tables tables, int kind) {
+            clear();
+            growBelow(this, tables, kind, tables.allWords(), 0);
+        }
+
+        private static int growBelow(Tree tree, Tables tables, int kind, int group, int depth) {
             int bit = tables.choice(kind, group, depth);
+            if (bit == NONE) {
+                return tree.addLeaf(tables.listOf(group), depth);
+            }
+            int k = tree.addNode(bit, depth);
+            tree.zeros[k] = growBelow(tree, tables, kind, Tables.side(group, bit, 0), depth + 1);
+            tree.ones[k] = growBelow(tree, tables, kind, Tables.side(group, bit, 1), depth + 1);
+            return k;
+        }
+
+        private int addLeaf(int list, int depth) {
+            int k = addNode(NONE, depth);
+            zeros[k] = NONE;
+            ones[k] = NONE;
+            lists[k] = list;
+            leaves++;
+            return k;
+        }
+
+        private int addNode(int bit, int depth) {
+            int k = size;
             tested[k] = bit;
             depths[k] = depth;
-            if (bit == NONE) {
-                zeros[k] = NONE;
-                ones[k] = NONE;
-                lists[k] = tables.listOf(group);
-                leaves++;
-            } else {
-                lists[k] = 0;
-                zeros[k] = grow(tables, kind, Tables.side(group, bit, 0), depth + 1);
-                ones[k] = grow(tables, kind, Tables.side(group, bit, 1), depth + 1);
-            }
+            lists[k] = 0;
+            size++;
             return k;
         }
 
